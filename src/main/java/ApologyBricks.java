@@ -44,7 +44,7 @@ public final class ApologyBricks {
 
     private final int[] text = new int[MOST_BYTES];
     private int bytes = 0;
-    private final Reader reader = new Reader();
+    private final Reader reader = new Reader(text);
     private Told told = new Told();
     private Told draft = new Told();
     private final Story story = new Story();
@@ -85,7 +85,7 @@ public final class ApologyBricks {
 
     public int chapter() {
         // A draft takes the text, so that a fault late in it leaves all as it was.
-        int items = reader.read(text, bytes, draft);
+        int items = reader.read(bytes, draft);
         if (items < 0) {
             return items;
         }
@@ -541,17 +541,20 @@ public final class ApologyBricks {
 
     /** Reads a text into what it tells, token by token. */
     private static final class Reader {
-        private int[] source = new int[0];
+        private final int[] source;
         private int length = 0;
         private int next = 0;
         private int start = 0;
         private int token = END;
         private int value = 0;
 
+        private Reader(int[] text) {
+            source = text;
+        }
+
         // The token that was read last is the first that can't stand: its start is the fault.
-        private int read(int[] bytes, int howMany, Told into) {
-            source = bytes;
-            length = Math.min(howMany, bytes.length);
+        private int read(int bytes, Told into) {
+            length = Math.min(bytes, source.length);
             next = 0;
             into.reset();
             for (int items = 0; items <= MOST_BYTES; items++) {
@@ -657,51 +660,50 @@ public final class ApologyBricks {
         }
 
         private void step() {
-            while (next < length && source[next] == ' ') {
-                next++;
-            }
-            start = next;
-            if (next >= length) {
+            start = endOfRun(next, ' ', ' ');
+            int behindLetters = endOfRun(start, 'a', 'z');
+            int behindDigits = endOfRun(start, '0', '9');
+            if (start >= length) {
+                next = start;
                 token = END;
-            } else if (isLetter(source[next])) {
-                stepOverLetters();
-            } else if (isDigit(source[next])) {
-                stepOverDigits();
+            } else if (behindLetters > start) {
+                next = behindLetters;
+                takeLetters();
+            } else if (behindDigits > start) {
+                next = behindDigits;
+                takeNumber();
             } else {
-                token = source[next] == ';' ? STOP : WRONG;
-                next++;
+                next = start + 1;
+                token = source[start] == ';' ? STOP : WRONG;
             }
+        }
+
+        private int endOfRun(int from, char low, char high) {
+            int at = from;
+            while (at < length && source[at] >= low && source[at] <= high) {
+                at++;
+            }
+            return at;
         }
 
         // Every item begins with one letter: several side by side are none of them.
-        private void stepOverLetters() {
+        private void takeLetters() {
             value = source[start];
-            while (next < length && isLetter(source[next])) {
-                next++;
-            }
             token = next - start == 1 ? LETTERS : WRONG;
         }
 
-        private void stepOverDigits() {
-            value = 0;
-            while (next < length && isDigit(source[next])) {
-                // Beyond two digits the token is wrong, whatever its value.
-                if (next - start < 2) {
-                    value = value * 10 + source[next] - '0';
-                }
-                next++;
-            }
+        private void takeNumber() {
             int digits = next - start;
-            boolean zeroAhead = digits > 1 && source[start] == '0';
-            token = digits > 2 || zeroAhead ? WRONG : NUMBER;
-        }
-
-        private static boolean isLetter(int c) {
-            return c >= 'a' && c <= 'z';
-        }
-
-        private static boolean isDigit(int c) {
-            return c >= '0' && c <= '9';
+            int first = source[start] - '0';
+            if (digits == 1) {
+                value = first;
+                token = NUMBER;
+            } else if (digits == 2 && first > 0) {
+                value = first * 10 + source[start + 1] - '0';
+                token = NUMBER;
+            } else {
+                token = WRONG;
+            }
         }
     }
 

@@ -34,6 +34,7 @@ public final class ModelTest {
     private int go() {
         while (left > 0 && wrong == 0) {
             if (random.nextInt(90) == 0 || left == CALLS && random.nextInt(8) != 0) tell();
+            else if (random.nextInt(120) == 0) undoAll();
             else one(random.nextInt(40));
         }
         return wrong;
@@ -72,6 +73,15 @@ public final class ModelTest {
         }
         if (left > 0 && wrong == 0) due("chapter()", program.chapter(), model.chapter());
         if (left > 0 && wrong == 0 && below(2) == 0) due("clear()", program.clear(), model.clear());
+    }
+
+    /** Down to the last scene that is known, and each of them looked at. */
+    private void undoAll() {
+        for (int i = 0; i < 11 && left > 2 && wrong == 0; i++) {
+            due("undo()", program.undo(), model.undo());
+            int b = about(model.count(2)), what = about(6);
+            due("brick(" + b + ", " + what + ")", program.brick(b, what), model.brick(b, what));
+        }
     }
 
     private String plainText() {

@@ -191,6 +191,37 @@ public final class PromisesTest {
         fault("s1;s1;s1;s1;s1; s1;", 16);
         fault("b0 0 0;b0 0 0;b0 0 0;b0 0 0;b0 0 0;b0 0 0;b0 0 0;b0 0 0;b0 0 0;b0 0 0;b", 70);
         fault("b0 9 99 !", 3);
+        fault("wa1 1;", 0);
+        fault("wz1 1;", 0);
+        fault("j1/;", 2);
+        fault("j1:;", 2);
+        fault("`", 0);
+        fault("{", 0);
+        bytesBehindTheText();
+        fullTexts();
+    }
+
+    /** What was typed and cleared is not read, though it stood behind the text's end. */
+    private static void bytesBehindTheText() {
+        String[][] rows = {{"bb", "b", "-11"}, {"j100;", "j1", "-12"}, {"j1;j2;", "j1", "-12"}, {"j3;", "", "0"}, {"j ", "j", "-11"}};
+        for (String[] row : rows) {
+            ApologyBricks x = new ApologyBricks();
+            typed(x, row[0]);
+            x.clear();
+            typed(x, row[1]);
+            due("chapter() of '" + row[1] + "' behind '" + row[0] + "'", x.chapter(), Integer.parseInt(row[2]));
+        }
+    }
+
+    private static void fullTexts() {
+        String blanks = " ".repeat(120);
+        String[] ends = {"j", "j1", "j 10", "b", ";", " ", "j1;", "!"};
+        int[] due = {-130, -130, -130, -130, -129, 0, 1, -129};
+        for (int i = 0; i < ends.length; i++) {
+            ApologyBricks x = new ApologyBricks();
+            typed(x, blanks.substring(ends[i].length()) + ends[i]);
+            due("chapter() of 120 bytes that end with '" + ends[i] + "'", x.chapter(), due[i]);
+        }
     }
 
     private static void bricks() {
@@ -384,6 +415,29 @@ public final class PromisesTest {
         due("undo()", x.undo(), STATE);
         due("now(1), the oldest is lost", x.now(1), 2);
         due("count(5), what was heard stays", x.count(5), 1);
+        manyUndone();
+    }
+
+    /** Thirteen that all change something: the last ten come back one by one. */
+    private static void manyUndone() {
+        ApologyBricks x = told("j30;b0 0 0;");
+        x.prompts(0);
+        for (int i = 1; i <= 6; i++) {
+            x.reads(0);
+            x.writes(0, i);
+        }
+        due("count(6)", x.count(6), 10);
+        x.keep(0);
+        for (int times = 0; times < 2; times++) {
+            for (int i = 9; i >= 0; i--) {
+                due("undo()", x.undo(), i);
+                due("brick(0, 2) when " + i + " may be undone", x.brick(0, 2), 1 + i / 2);
+                due("brick(0, 3) when " + i + " may be undone", x.brick(0, 3), i % 2 == 0 ? 1 : 3);
+            }
+            due("undo()", x.undo(), STATE);
+            x.back(0);
+            due("count(6)", x.count(6), 10);
+        }
     }
 
     private static void nowAndWall() {
@@ -443,6 +497,10 @@ public final class PromisesTest {
         due("letters(1), held ones do", x.letters(1), 0);
         x.lays(0, 0);
         due("letters(1), laid ones don't", x.letters(1), 8);
+        ApologyBricks y = told("w6 1;b0 0 0;b0 1 0;b1 2 0;b1 3 0;b2 4 0;b2 5 0;");
+        int[] sets = {1, 3, 7, 15, 31, 63};
+        for (int n = 1; n <= 6; n++) due("letters(" + n + ")", y.letters(n), sets[n - 1]);
+        due("letters(7)", y.letters(7), NONE);
     }
 
     private static void apologies() {
