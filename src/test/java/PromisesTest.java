@@ -614,6 +614,13 @@ public final class PromisesTest {
         due("ask(), of several the lowest", y.ask(), 1);
         ApologyBricks z = told("j16;j15;");
         due("ask(), equal greater parts", z.ask(), 0);
+        ApologyBricks edges = told("j30;j1;");
+        edges.hears(0, 1);
+        for (int w = 0; w < 3; w++) due("worths(" + w + ") of the greatest", edges.worths(w), w == 0 ? 1 : 30);
+        edges.forget();
+        edges.hears(1, 0);
+        for (int w = 0; w < 3; w++) due("worths(" + w + ") of the least", edges.worths(w), w == 0 ? 1 : 0);
+        due("ask(), one alone", edges.ask(), NONE);
         ApologyBricks none = new ApologyBricks();
         due("ask() without judges", none.ask(), NONE);
         due("hears(0, 0) without judges", none.hears(0, 0), BAD);
@@ -677,6 +684,16 @@ public final class PromisesTest {
         due("brick(0, 3)", x.brick(0, 3), 2);
         due("keep(0) anew", x.keep(0), 0);
         due("back(0)", x.back(0), 0);
+        ApologyBricks y = read("w2 2;b1 0 0;b0 0 0;");
+        y.lays(0, 1);
+        y.lays(1, 1);
+        y.keep(0);
+        y.falls(1);
+        due("lays(1, 0), in another course", y.lays(1, 0), 1);
+        y.back(0);
+        due("place(1, 1), where it was", y.place(1, 1), 1);
+        due("place(0, 0)", y.place(0, 0), NONE);
+        due("falls(1)", y.falls(1), 1);
     }
 
     private static void counts() {
