@@ -42,9 +42,7 @@ public final class ApologyBricks {
     // Ten bricks of ten tenths each make 10 to the 10th chances: so many are a millionth.
     private static final long A_MILLIONTH = 10000L;
 
-    private final int[] text = new int[MOST_BYTES];
-    private int bytes = 0;
-    private final Reader reader = new Reader(text);
+    private final Reader reader = new Reader();
     private Told told = new Told();
     private Told draft = new Told();
     private final Story story = new Story();
@@ -60,7 +58,6 @@ public final class ApologyBricks {
         for (int i = 0; i < IMAGES; i++) {
             images[i] = new Story();
         }
-        story.begin(told);
     }
 
     // ---- the chapter
@@ -69,30 +66,29 @@ public final class ApologyBricks {
         if (c < 0 || c > 255) {
             return BAD;
         }
-        if (bytes >= MOST_BYTES) {
+        if (reader.length >= MOST_BYTES) {
             return FULL;
         }
-        text[bytes] = c;
-        bytes++;
-        return bytes;
+        reader.add(c);
+        return reader.length;
     }
 
     public int clear() {
-        int had = bytes;
-        bytes = 0;
+        int had = reader.length;
+        reader.length = 0;
         return had;
     }
 
     public int chapter() {
         // A draft takes the text, so that a fault late in it leaves all as it was.
-        int items = reader.read(bytes, draft);
+        int items = reader.read(draft);
         if (items < 0) {
             return items;
         }
         Told older = told;
         told = draft;
         draft = older;
-        bytes = 0;
+        reader.length = 0;
         story.begin(told);
         hearing.heard = 0;
         for (int i = 0; i < IMAGES; i++) {
@@ -372,7 +368,7 @@ public final class ApologyBricks {
             case 6:
                 return story.known;
             case 7:
-                return bytes;
+                return reader.length;
             default:
                 return BAD;
         }
@@ -539,22 +535,24 @@ public final class ApologyBricks {
         }
     }
 
-    /** Reads a text into what it tells, token by token. */
+    /** Keeps the text, and reads it into what it tells, token by token. */
     private static final class Reader {
-        private final int[] source;
+        private final int[] source = new int[MOST_BYTES];
         private int length = 0;
         private int next = 0;
         private int start = 0;
         private int token = END;
         private int value = 0;
 
-        private Reader(int[] text) {
-            source = text;
+        private void add(int c) {
+            if (length < MOST_BYTES) {
+                source[length] = c;
+                length++;
+            }
         }
 
         // The token that was read last is the first that can't stand: its start is the fault.
-        private int read(int bytes, Told into) {
-            length = Math.min(bytes, source.length);
+        private int read(Told into) {
             next = 0;
             into.reset();
             for (int items = 0; items <= MOST_BYTES; items++) {
@@ -869,7 +867,7 @@ public final class ApologyBricks {
             Arrays.fill(left, 0);
             for (int b = 0; b < told.bricks; b++) {
                 int what = scene.what[b];
-                if (what == HELD || what == COME || what == AWAY && hasBit(reach, told.holder[b])) {
+                if (what == HELD || what == COME || (what == AWAY && hasBit(reach, told.holder[b]))) {
                     left[told.shape[b]]++;
                 }
             }

@@ -8,7 +8,9 @@ import java.nio.file.Files;
 import java.nio.file.Path;
 import java.util.Arrays;
 import java.util.HashSet;
+import java.util.Map;
 import java.util.Set;
+import java.util.TreeMap;
 import java.util.TreeSet;
 import java.util.regex.Matcher;
 import java.util.regex.Pattern;
@@ -27,6 +29,8 @@ public final class LanguageTest {
         "\\bthrow\\b", "\\btry\\b", "\\bcatch\\b", "\\bsynchronized\\b", "\\bassert\\b", "->", "::", "\\bpackage\\b",
         "\\bprotected\\b", "@", "\\bObject\\b", "\\bSystem\\.(?!arraycopy\\b)", "\\bMath\\.\\w*Exact\\b", "\\bThread\\b",
         "\\bRandom\\b", "\\.hashCode\\b", "\\.toString\\b", "\\bimport (?!java\\.util\\.(Arrays|ArrayList|List|Iterator);)"};
+    private static final Set<String> FIELD_TYPES = Set.of("int", "long", "boolean", "int[]", "long[]", "boolean[]", "int[][]");
+    private static final int MOST_LINES = 60, MOST_FIELDS = 20, MOST_DEEP = 8;
     private static int wrong = 0;
 
     private static void hold(boolean right, String what) {
@@ -39,7 +43,10 @@ public final class LanguageTest {
     public static void main(String[] args) throws IOException {
         face();
         nested();
+        fields(ApologyBricks.class);
+        for (Class<?> c : ApologyBricks.class.getDeclaredClasses()) fields(c);
         words();
+        methods();
         objectsMade();
         System.out.println("LanguageTest: " + (wrong == 0 ? "all rules hold" : wrong + " rules are broken"));
         if (wrong != 0) System.exit(1);
@@ -86,6 +93,10 @@ public final class LanguageTest {
         for (Class<?> c : inside) {
             int m = c.getModifiers();
             hold(Modifier.isStatic(m) && !Modifier.isPublic(m) && !Modifier.isProtected(m), c + " is static and not open");
+            // So the constructor of the face can hand out nothing of the object that it makes.
+            for (Constructor<?> made : c.getDeclaredConstructors()) {
+                hold(made.getParameterCount() == 0, made + " is handed something");
+            }
             for (Method method : c.getDeclaredMethods()) {
                 hold(!open.contains(method.getName()), method + " bears a name of the face");
                 hold(method.getParameterCount() <= 7, method + " takes more than seven");
@@ -97,9 +108,61 @@ public final class LanguageTest {
         }
     }
 
+    private static void fields(Class<?> c) {
+        int own = 0;
+        for (Field f : c.getDeclaredFields()) {
+            Class<?> type = f.getType();
+            Class<?> part = type.isArray() ? type.getComponentType() : type;
+            boolean ours = part.getEnclosingClass() == ApologyBricks.class;
+            if (Modifier.isStatic(f.getModifiers())) {
+                hold(Modifier.isFinal(f.getModifiers()) && (type == int.class || type == long.class), f + " is no constant");
+            } else {
+                own++;
+                hold(ours || FIELD_TYPES.contains(type.getSimpleName()), f + " is of a type that is ruled out");
+            }
+        }
+        hold(own <= MOST_FIELDS, c + " has " + own + " fields");
+    }
+
+    /** How long methods are, and how deep their calls go (those of one name are taken together). */
+    private static void methods() throws IOException {
+        String[] lines = code().split("\n");
+        Map<String, Set<String>> words = new TreeMap<>();
+        for (int i = 0; i < lines.length; i++) {
+            Matcher head = Pattern.compile("( +)(?:public|private) .*?(\\w+)\\([^)]*\\) \\{").matcher(lines[i]);
+            if (!head.matches()) continue;
+            int end = i + 1;
+            while (!lines[end].equals(head.group(1) + "}")) end++;
+            hold(end - i < MOST_LINES, head.group(2) + " has " + (end - i + 1) + " lines");
+            Set<String> called = words.computeIfAbsent(head.group(2), name -> new TreeSet<>());
+            String body = String.join("\n", Arrays.copyOfRange(lines, i + 1, end));
+            Matcher call = Pattern.compile("(\\w+)\\(").matcher(body);
+            while (call.find()) called.add(call.group(1));
+        }
+        hold(words.size() > FACE.length, "methods are found in the source");
+        int deepest = 0;
+        for (String name : words.keySet()) deepest = Math.max(deepest, depth(words, name, 0));
+        hold(deepest <= MOST_DEEP, "calls go " + deepest + " deep");
+    }
+
+    private static int depth(Map<String, Set<String>> words, String name, int above) {
+        int deepest = 1;
+        if (above > 2 * MOST_DEEP) return deepest;
+        for (String called : words.get(name)) {
+            if (words.containsKey(called) && !called.equals(name)) {
+                deepest = Math.max(deepest, 1 + depth(words, called, above + 1));
+            }
+        }
+        return deepest;
+    }
+
+    private static String code() throws IOException {
+        return Files.readString(Path.of(SOURCE)).replaceAll("(?s)/\\*.*?\\*/", "").replaceAll("//[^\n]*", "");
+    }
+
     private static void words() throws IOException {
         String source = Files.readString(Path.of(SOURCE));
-        String code = source.replaceAll("(?s)/\\*.*?\\*/", "").replaceAll("//[^\n]*", "");
+        String code = code();
         for (String w : RULED_OUT) {
             Matcher m = Pattern.compile(w).matcher(code);
             hold(!m.find(), "the source has what is ruled out: " + w);
